@@ -37,8 +37,10 @@ public final class StampSheet {
     private static final int HIDDEN = 2;
     private static final int BOTH_WAYS = 3;
 
-    /** What stands in a piece's row; the first four are numbered as told() numbers them. END is
-     *  the number behind that of its last copy. */
+    /**
+     * What stands in a piece's row; the first four are numbered as told() numbers them. END is
+     * the number behind that of its last copy.
+     */
     private static final int PIECE_ROWS = 0;
     private static final int PIECE_COLUMNS = 1;
     private static final int PIECE_MARGINS = 2;
@@ -548,7 +550,7 @@ public final class StampSheet {
 
         private boolean isBarred(int there) {
             for (int mark = 0; mark < MARKS; mark++) {
-                if (isIn(there, mark) && (there & barred[mark]) != 0) {
+                if ((there >> mark & 1) == 1 && (there & barred[mark]) != 0) {
                     return true;
                 }
             }
@@ -860,7 +862,8 @@ public final class StampSheet {
             count = 1;
             for (int first = 0; first < MOST_PIECES; first++) {
                 if (leadsGroup(first)) {
-                    clearLoad(first);
+                    // what another grouping left here; nothing of this one is laid ahead of it
+                    Arrays.fill(load, first * LOADS, (first + 1) * LOADS, 0);
                     lowest = ABOVE_ALL_QUARRELS;
                     lower(first, 0);
                     groupLeast[first] = lowest;
@@ -879,13 +882,21 @@ public final class StampSheet {
             }
         }
 
-        private void clearLoad(int first) {
-            Arrays.fill(load, first * LOADS, (first + 1) * LOADS, 0);
-        }
-
         /** What a piece would quarrel on a spot with those of its group that are laid. */
         private int loadOf(int piece, int spot) {
             return load[piece * LOADS + piece * MOST_PLACES + spot];
+        }
+
+        /** The open spots where a piece would quarrel no more than so much, as bits. */
+        private int spotsWithin(int piece, int most) {
+            int row = piece * LOADS + piece * MOST_PLACES;
+            int spots = 0;
+            for (int spot = 0; spot < places; spot++) {
+                if (load[row + spot] <= most) {
+                    spots |= 1 << spot;
+                }
+            }
+            return spots & open[piece];
         }
 
         /** Lays a piece on a spot: later ones of its group bear what they quarrel with it. */
@@ -922,17 +933,18 @@ public final class StampSheet {
          * That is what the least leaves, so no way has less; spots met this way are best ones.
          */
         private int ways(int piece, int left) {
-            if (piece >= MOST_PIECES) {
-                return 1;
+            int spots = spotsWithin(piece, left);
+            int next = follower[piece];
+            if (next >= MOST_PIECES) {
+                best[piece] |= spots;
+                return Integer.bitCount(spots);
             }
             int all = 0;
             for (int spot = 0; spot < places; spot++) {
-                if (isIn(open[piece], spot) && loadOf(piece, spot) <= left) {
+                if (isIn(spots, spot)) {
                     lay(piece, spot);
-                    int found = ways(follower[piece], left - loadOf(piece, spot));
-                    if (found > 0) {
-                        best[piece] |= 1 << spot;
-                    }
+                    int found = ways(next, left - loadOf(piece, spot));
+                    best[piece] |= found > 0 ? 1 << spot : 0;
                     all += found;
                 }
             }
@@ -963,7 +975,6 @@ public final class StampSheet {
             for (int spot = 0; spot < places; spot++) {
                 if (isIn(best[piece], spot)) {
                     open[piece] = 1 << spot;
-                    clearLoad(first);
                     int found = ways(first, groupLeast[first]);
                     if (left < found * others) {
                         waysLeft[first] = found;

@@ -7,7 +7,7 @@ import java.util.Random;
  * word by word: it lists every laying and reckons everything anew.
  */
 public final class PlainRuns {
-    private static final int RUNS = 1500;
+    private static final int RUNS = 4000;
     private static final int CALLS = 512;
     private static final int[] ODD = {Integer.MIN_VALUE, -2, -1, 1000, Integer.MAX_VALUE};
 
@@ -491,33 +491,90 @@ public final class PlainRuns {
         return call;
     }
 
+    /** What sort of run it is: small sheets make copies meet, kept ones make layings last. */
+    private static final class Mood {
+        final Random random;
+        final boolean narrow, wild, fewMarks, fewDays;
+        final int oddness;
+
+        Mood(int run) {
+            random = new Random(run);
+            narrow = run % 3 == 0;
+            wild = run % 7 == 0;
+            fewMarks = run % 5 < 3;
+            fewDays = run % 2 == 0;
+            oddness = run % 4 == 0 ? 10 : 80;
+        }
+
+        int[] numbers(int call, Plain p) {
+            int[] r = ranges(call, p);
+            if (call == 0 && narrow) {
+                r[1] = 2;
+                r[3] = 2;
+            }
+            if (call == 1 && !wild) {
+                r[1] = Math.min(2, p.rows);
+                r[3] = Math.min(3, p.columns);
+            }
+            if (call == 3 && fewMarks) {
+                r[3] = 1;
+                r[5] = 1;
+            }
+            if (call == 6 && fewDays) r[3] = 3;
+            if (call == 7 && fewDays) r[3] = 4;
+            if ((call == 4 || call == 3) && random.nextInt(4) == 0) r[0] = Math.max(0, r[1] - 3);
+            int[] n = new int[3];
+            for (int i = 0; i < 3; i++) n[i] = number(random, r[2 * i], r[2 * i + 1], oddness);
+            if (call == 1 && !wild && random.nextInt(8) > 0) n[2] = margins(p, n[0], n[1]);
+            if (call == 5 && !wild) n[2] = letter(p, n);
+            return n;
+        }
+
+        /** Margins that some spot of the sheet has, mostly none. */
+        private int margins(Plain p, int rows, int columns) {
+            if (random.nextInt(2) == 0 || rows > p.rows || columns > p.columns) return 0;
+            int row = random.nextInt(p.rows - Math.max(rows, 1) + 1);
+            int column = random.nextInt(p.columns - Math.max(columns, 1) + 1);
+            int rims = (row == 0 ? 1 : 0) | (column == 0 ? 2 : 0) | (row + rows == p.rows ? 4 : 0)
+                | (column + columns == p.columns ? 8 : 0);
+            return rims & random.nextInt(16);
+        }
+
+        /** A letter that some best laying has, or none. */
+        private int letter(Plain p, int[] n) {
+            int kind = random.nextInt(6);
+            if (kind == 0 || p.noCopy(n[0]) || p.best().isEmpty()) return n[2];
+            Copy copy = p.copies().get(n[0]);
+            int[] laying = p.best().get(random.nextInt(p.best().size()));
+            if (kind == 1 || laying[p.pieceOf(copy)] < 0) return -1;
+            int place = p.placeIn(laying, copy);
+            return n[1] == 0 ? place / p.columns : place % p.columns;
+        }
+
+        int call(int i) {
+            if (i < 5) return i == 0 ? 0 : 1;
+            int call = pickCall(random);
+            // what takes all away comes seldom, but for the wild runs
+            boolean takesAway = call == 0 || call == 2 || call == 8 || call == 9;
+            return takesAway && !wild && random.nextInt(4) > 0 ? pickCall(random) : call;
+        }
+    }
+
     public static void main(String[] args) {
         int[] met = new int[NAMES.length];
         for (int run = 1; run <= RUNS; run++) {
-            Random random = new Random(run);
+            Mood mood = new Mood(run);
             StampSheet x = new StampSheet();
             Plain p = new Plain();
             StringBuilder told = new StringBuilder();
-            // some runs are on few places, some have few marks, so that copies meet and are sure
-            boolean narrow = run % 3 == 0;
-            int oddness = run % 2 == 0 ? 12 : 60;
             for (int i = 0; i < CALLS / (run % 4 + 1); i++) {
-                int call = i == 0 ? 0 : i < 4 ? 1 : pickCall(random);
-                int[] r = ranges(call, p);
-                if (call == 0 && narrow) r[1] = r[3] = 2;
-                if (call == 3 && run % 5 == 0) r[3] = 1;
-                if (call == 6 && run % 2 == 0) r[3] = 3;
-                if (call == 7 && run % 2 == 0) r[3] = 4;
-                int a = number(random, r[0], r[1], oddness);
-                int b = number(random, r[2], r[3], oddness);
-                int c = number(random, r[4], r[5], oddness);
-                if (call == 1 && random.nextInt(4) > 0) c = random.nextInt(3) == 0 ? 1 << random.nextInt(4) : 0;
-                if (call == 5 && random.nextInt(3) == 0) c = -1;
-                int want = p.answer(call, a, b, c);
-                int got = answer(x, call, a, b, c);
+                int call = mood.call(i);
+                int[] n = mood.numbers(call, p);
+                int want = p.answer(call, n[0], n[1], n[2]);
+                int got = answer(x, call, n[0], n[1], n[2]);
                 met[call]++;
-                told.append(NAMES[call]).append('(').append(a).append(", ").append(b).append(", ").append(c)
-                    .append(") = ").append(want).append('\n');
+                told.append(NAMES[call]).append('(').append(n[0]).append(", ").append(n[1]).append(", ")
+                    .append(n[2]).append(") = ").append(want).append('\n');
                 if (got != want) {
                     System.out.println(told);
                     System.out.println("run " + run + ", call " + i + ": " + NAMES[call] + " answered " + got

@@ -1,0 +1,130 @@
+import java.lang.reflect.Constructor;
+import java.lang.reflect.Field;
+import java.lang.reflect.Method;
+import java.lang.reflect.Modifier;
+import java.nio.file.Files;
+import java.nio.file.Path;
+import java.util.Set;
+import java.util.TreeSet;
+import java.util.regex.Matcher;
+import java.util.regex.Pattern;
+
+/** The face of the document, and those rules of LANGUAGE.md that can be read off the text. */
+public final class FaceTests {
+    private static final String[] FACE = {
+        "sheet(int,int)", "piece(int,int,int)", "drop()", "mark(int,int,int)", "like(int,int)",
+        "letter(int,int,int)", "wear(int,int)", "dated(int,int,int)", "out(int,boolean)", "bar(int,int)", "free()",
+        "of(int,int)", "told(int,int)", "quarrel()", "layings()", "laying(int,int)", "place(int)", "rivals(int)",
+        "order(int,int)", "known(int,int)", "changes(int,int)", "breaks(int)", "inverted()", "span(int,int)",
+        "unseen(int)", "many(int)", "keep()", "back()"};
+    private static final String[] CONSTANTS = {"NUMBER=-1", "FULL=-2", "TWICE=-3", "NONE=-4", "APART=-5", "RIVALS=-6"};
+    private static final String[] BANNED = {"throw", "throws", "try", "catch", "finally", "synchronized", "assert",
+        "Exception", "Random", "Thread", "File", "System.out", "System.exit", "currentTimeMillis", "nanoTime",
+        "Object", "HashMap", "Map", "Set", "package"};
+
+    private static int wrong = 0;
+
+    private static void check(boolean holds, String what) {
+        if (!holds) {
+            wrong++;
+            System.out.println("not so: " + what);
+        }
+    }
+
+    private static String signature(Method m) {
+        StringBuilder s = new StringBuilder(m.getName()).append('(');
+        for (Class<?> p : m.getParameterTypes()) {
+            s.append(s.charAt(s.length() - 1) == '(' ? "" : ",").append(p.getName());
+        }
+        return s.append(')').toString();
+    }
+
+    private static void methods() {
+        Set<String> found = new TreeSet<>();
+        Set<String> names = new TreeSet<>();
+        for (Method m : StampSheet.class.getDeclaredMethods()) {
+            if (!Modifier.isPrivate(m.getModifiers())) {
+                check(Modifier.isPublic(m.getModifiers()), m.getName() + " is public or private");
+                check(!Modifier.isStatic(m.getModifiers()), m.getName() + " is of an object");
+                check(m.getReturnType() == int.class, m.getName() + " answers an int");
+                found.add(signature(m));
+                names.add(m.getName());
+            }
+        }
+        check(found.equals(new TreeSet<>(Set.of(FACE))), "the public methods are those of the document: " + found);
+        for (Method m : StampSheet.class.getDeclaredMethods()) {
+            check(Modifier.isPublic(m.getModifiers()) || !names.contains(m.getName()), m.getName() + " is a name of its own");
+        }
+        for (Class<?> c : StampSheet.class.getDeclaredClasses()) {
+            for (Method m : c.getDeclaredMethods()) {
+                check(!names.contains(m.getName()), m.getName() + " of " + c.getName() + " is a name of its own");
+                check(m.getParameterCount() <= 7, m.getName() + " takes at most seven");
+            }
+        }
+    }
+
+    private static void fields() throws IllegalAccessException {
+        Set<String> found = new TreeSet<>();
+        for (Field f : StampSheet.class.getDeclaredFields()) {
+            if (!Modifier.isPrivate(f.getModifiers())) {
+                boolean constant = Modifier.isPublic(f.getModifiers()) && Modifier.isStatic(f.getModifiers())
+                    && Modifier.isFinal(f.getModifiers()) && f.getType() == int.class;
+                check(constant, f.getName() + " is a constant");
+                found.add(f.getName() + "=" + f.get(null));
+            }
+        }
+        check(found.equals(new TreeSet<>(Set.of(CONSTANTS))), "the constants are those of the document: " + found);
+    }
+
+    private static void classes() {
+        int modifiers = StampSheet.class.getModifiers();
+        check(Modifier.isPublic(modifiers) && Modifier.isFinal(modifiers), "the class is public and final");
+        Constructor<?>[] made = StampSheet.class.getDeclaredConstructors();
+        check(made.length == 1 && Modifier.isPublic(made[0].getModifiers()) && made[0].getParameterCount() == 0,
+            "there is one constructor, without numbers");
+        check(StampSheet.class.getDeclaredClasses().length <= 11, "there are at most some twelve classes");
+        for (Class<?> c : StampSheet.class.getDeclaredClasses()) {
+            int m = c.getModifiers();
+            check(Modifier.isStatic(m) && !Modifier.isPublic(m) && !Modifier.isProtected(m), c.getName() + " is static");
+            int fields = 0;
+            for (Field f : c.getDeclaredFields()) {
+                fields += Modifier.isStatic(f.getModifiers()) ? 0 : 1;
+                check(!Modifier.isStatic(f.getModifiers()) || Modifier.isFinal(f.getModifiers()), f.getName() + " is final");
+            }
+            check(fields <= 20, c.getName() + " has some twenty fields at most");
+        }
+    }
+
+    private static void text() throws java.io.IOException {
+        String text = Files.readString(Path.of("src/main/java/StampSheet.java"));
+        for (int i = 0; i < text.length(); i++) {
+            check(text.charAt(i) < 128, "sign " + i + " is a plain one");
+        }
+        String code = text.replaceAll("(?s)/\\*.*?\\*/", " ").replaceAll("//[^\\n]*", " ");
+        for (String word : BANNED) {
+            check(!Pattern.compile("\\b" + Pattern.quote(word) + "\\b").matcher(code).find(), "no '" + word + "'");
+        }
+        check(!code.contains("->") && !code.contains("::"), "no lambda, no method reference");
+        Matcher imports = Pattern.compile("import\\s+([^;]*);").matcher(code);
+        while (imports.find()) {
+            check(imports.group(1).equals("java.util.Arrays"), "import of " + imports.group(1));
+        }
+        Matcher library = Pattern.compile("\\b(Math|Integer|Arrays|System)\\.(\\w+)").matcher(code);
+        Set<String> may = Set.of("Math.max", "Math.min", "Integer.bitCount", "Integer.numberOfTrailingZeros",
+            "Arrays.fill", "System.arraycopy");
+        while (library.find()) {
+            check(may.contains(library.group()) || library.group().equals("util.Arrays"), library.group() + " is allowed");
+        }
+    }
+
+    public static void main(String[] args) throws Exception {
+        classes();
+        methods();
+        fields();
+        text();
+        System.out.println(wrong == 0 ? "the face is as due" : wrong + " things are not as due");
+        if (wrong != 0) {
+            System.exit(1);
+        }
+    }
+}
