@@ -117,8 +117,29 @@ public final class FaceTests {
         }
     }
 
+    /** The methods come in the document's order, with what it says ahead of each part of them. */
+    private static void parts() throws java.io.IOException {
+        String text = Files.readString(Path.of("src/main/java/StampSheet.java"));
+        String[] ahead = {"sheet", "// ---- what is told", "quarrel", "// ---- layings", "order",
+            "// ---- what is sure", "keep", "// ---- kept"};
+        int at = text.indexOf("public StampSheet()");
+        for (String method : FACE) {
+            String name = method.substring(0, method.indexOf('('));
+            int next = text.indexOf("public int " + name + "(");
+            check(next > at && at > 0, name + " comes in its turn");
+            String between = at > 0 && next > at ? text.substring(at, next) : "";
+            String due = "";
+            for (int i = 0; i < ahead.length; i += 2) {
+                due = ahead[i].equals(name) ? ahead[i + 1] : due;
+            }
+            check(between.contains("// ----") != due.isEmpty() && between.contains(due), "ahead of " + name + ": " + due);
+            at = next;
+        }
+    }
+
     public static void main(String[] args) throws Exception {
         classes();
+        parts();
         methods();
         fields();
         text();
