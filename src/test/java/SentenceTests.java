@@ -23,6 +23,7 @@ public final class SentenceTests {
     private static final Path PAGE = Path.of("src/test/sentences.txt");
     private static final Path DOCUMENT = Path.of("../shared/DOC.md");
     private static final int MOST_CALLS = 512;
+    private static final int MOST_RUN = MOST_CALLS / 2;
     private static final int MARKS = 8;
     private static final int SHADES = 6;
     private static final List<String> QUESTIONS = List.of("of", "told", "quarrel", "layings", "laying", "place",
@@ -99,6 +100,10 @@ public final class SentenceTests {
     }
 
     private static void run(List<Call> run) {
+        if (run.size() > MOST_RUN) {
+            fail(run.get(0).line, "the run leaves no calls to ask what has changed");
+            return;
+        }
         StampSheet x = new StampSheet();
         runs++;
         boolean asks = false;
@@ -116,8 +121,8 @@ public final class SentenceTests {
                 changesNothing(run.subList(0, i), c);
             }
         }
-        if (!asks || run.size() > MOST_CALLS) {
-            fail(run.get(0).line, "a run has an answer that is due, and " + MOST_CALLS + " calls at most");
+        if (!asks) {
+            fail(run.get(0).line, "the run has no answer that is due");
         }
     }
 
