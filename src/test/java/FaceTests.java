@@ -95,8 +95,7 @@ public final class FaceTests {
         }
     }
 
-    private static void text() throws java.io.IOException {
-        String text = Files.readString(Path.of("src/main/java/StampSheet.java"));
+    private static void text(String text) {
         for (int i = 0; i < text.length(); i++) {
             check(text.charAt(i) < 128, "sign " + i + " is a plain one");
         }
@@ -117,32 +116,50 @@ public final class FaceTests {
         }
     }
 
-    /** The methods come in the document's order, with what it says ahead of each part of them. */
-    private static void parts() throws java.io.IOException {
-        String text = Files.readString(Path.of("src/main/java/StampSheet.java"));
-        String[] ahead = {"sheet", "// ---- what is told", "quarrel", "// ---- layings", "order",
-            "// ---- what is sure", "keep", "// ---- kept"};
-        int at = text.indexOf("public StampSheet()");
-        for (String method : FACE) {
-            String name = method.substring(0, method.indexOf('('));
-            int next = text.indexOf("public int " + name + "(");
-            check(next > at && at > 0, name + " comes in its turn");
-            String between = at > 0 && next > at ? text.substring(at, next) : "";
-            String due = "";
-            for (int i = 0; i < ahead.length; i += 2) {
-                due = ahead[i].equals(name) ? ahead[i + 1] : due;
-            }
-            check(between.contains("// ----") != due.isEmpty() && between.contains(due), "ahead of " + name + ": " + due);
-            at = next;
+    /** The face that the document writes out is the class's, line by line and in its order. */
+    private static void documentsFace(String document, String text) {
+        Matcher line = Pattern.compile("(?m)^ *(public .*?[{;])$").matcher(document);
+        int at = -1;
+        int members = 0;
+        while (line.find()) {
+            String member = line.group(1).replaceAll("\\);$", ") {");
+            int next = text.indexOf(member, at + 1);
+            check(next > at, "in its turn the class has: " + member);
+            at = Math.max(at, next);
+            members += member.contains(" class ") ? 0 : 1;
         }
+        check(members == FACE.length + CONSTANTS.length + 1, "the document's face is the one that is tested here");
+    }
+
+    /** What the document says ahead of parts of the calls stands there, and nowhere else. */
+    private static void parts(String document, String text) {
+        Matcher part = Pattern.compile("Ahead of the calls (.*?) the interface says: (---- .*?)\\.").matcher(document);
+        int at = text.indexOf("public StampSheet()");
+        int named = 0;
+        while (part.find()) {
+            String due = "// " + part.group(2) + "\n";
+            for (String quoted : part.group(1).split(", ")) {
+                int next = text.indexOf("public int " + quoted.replace("`", "") + "(");
+                check(next > at && at > 0, quoted + " comes in its turn");
+                String between = at > 0 && next > at ? text.substring(at, next) : "";
+                check(between.contains("// ----") != due.isEmpty() && between.contains(due), "ahead of " + quoted + ": " + due);
+                due = "";
+                at = next;
+                named++;
+            }
+        }
+        check(named == FACE.length, "the document's parts have all calls");
     }
 
     public static void main(String[] args) throws Exception {
+        String document = Files.readString(Path.of("../shared/DOC.md"));
+        String source = Files.readString(Path.of("src/main/java/StampSheet.java"));
         classes();
-        parts();
+        documentsFace(document, source);
+        parts(document, source);
         methods();
         fields();
-        text();
+        text(source);
         System.out.println(wrong == 0 ? "the face is as due" : wrong + " things are not as due");
         if (wrong != 0) {
             System.exit(1);

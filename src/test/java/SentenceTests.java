@@ -12,7 +12,8 @@ import java.util.regex.Pattern;
  * Runs src/test/sentences.txt: each sentence of the document with runs of calls on new objects.
  * Every refused call and every question on that page is tried a second time beside an object
  * that is spared it, so that it has to change nothing; and the page has to quote every sentence
- * of the document's "Terms" and of its promises.
+ * of the document, but for those of "Not promised", which ask for nothing, and for the face, which
+ * FaceTests reads out of the document.
  *
  * The page: '## ' begins a section, named as in the document; '> ' quotes it; 'new' begins a new
  * object, as each quote does; 'by X' says that test X holds the sentence; '#' begins a remark;
@@ -259,7 +260,7 @@ public final class SentenceTests {
                 section.add(line.substring(2));
                 held = false;
             } else if (line.startsWith("by ")) {
-                held = true;
+                held = Files.exists(Path.of("src/test/java", line.substring(3) + ".java"));
             } else if (!line.isEmpty() && !line.startsWith("#") && !line.equals("new")) {
                 for (String text : line.split(";")) {
                     run.add(call(text, at));
@@ -274,8 +275,8 @@ public final class SentenceTests {
         Map<String, String> sections = new LinkedHashMap<>();
         Matcher m = Pattern.compile("(?ms)^## (.*?)$(.*?)(?=^## |\\z)").matcher(Files.readString(DOCUMENT));
         while (m.find()) {
-            if (m.group(1).equals("Terms") || m.group(1).startsWith("Promise")) {
-                String text = m.group(2).replaceAll("(?m)^```.*$|^\\d\\. ", "")
+            if (!m.group(1).equals("Not promised")) {
+                String text = m.group(2).replaceAll("(?s)```java.*?```", "").replaceAll("(?m)^```.*$|^\\d\\. ", "")
                     .replaceAll("(?m)^`(int \\w+|StampSheet)\\(.*?\\)`: ", "");
                 sections.put(m.group(1).trim(), text.replaceAll("\\s+", " ").trim());
             }
